@@ -143,6 +143,9 @@ public final class SlotTest {
         CHECKS.due("another letter", bench.same(0, 3), false);
         CHECKS.due("a numeral", bench.same(4, 5), true);
         CHECKS.due("another size", bench.same(5, 6), false);
+        Checks.read(bench, 7, "a");
+        Checks.read(bench, 8, "b");
+        CHECKS.due("letters", bench.same(7, 8), false);
         CHECKS.due("none and a term", bench.same(9, 0), false);
         CHECKS.due("a term and none", bench.same(0, 9), false);
         CHECKS.due("none and none", bench.same(9, 10), true);
@@ -168,6 +171,15 @@ public final class SlotTest {
         CHECKS.due("has in none", bench.has(1, 'a'), false);
         bench.bind(0, 'a');
         CHECKS.due("has a no more", bench.has(0, 'a'), false);
+        Checks.read(bench, 2, "a b c");
+        Checks.read(bench, 2, "a");
+        CHECKS.due("has its only letter", bench.has(2, 'a'), true);
+        for (char letter = 'b'; letter <= 'z'; letter++) {
+            CHECKS.due("has no letter of the term before", bench.has(2, letter), false);
+        }
+        Checks.read(bench, 3, "a b");
+        Checks.read(bench, 3, "c");
+        CHECKS.due("has a of the term before", bench.has(3, 'a'), false);
         LambdaBench index = Checks.with("\\x" + "y".repeat(60) + ".x");
         CHECKS.due("index 60 is no letter", index.has(0, 'l'), false);
     }

@@ -205,6 +205,8 @@ public final class TextTest {
         right(open + "a" + close + open + "b" + close, "@ab");
         right(open + "\\x.x" + close, "\\0");
         right("(\\a.".repeat(20) + "a" + close, "\\".repeat(20) + "0");
+        right("(\\a.".repeat(20) + "a" + ")a".repeat(20),
+            "@" + "\\@".repeat(19) + "\\0" + "0".repeat(19) + "a");
         wrong("(" + open + "a" + close + ")", 20);
         wrong("(" + open, 20);
         wrong("a " + open + "a)a((a", 26);
@@ -243,6 +245,8 @@ public final class TextTest {
         CHECKS.due("the new one", Checks.row(bench, 0), "c");
         CHECKS.due("place after a right one", bench.place(), -1);
         CHECKS.due("last slot", Checks.read(bench, 11, "d"), 1);
+        CHECKS.due("two digits", Checks.read(bench, 0, "#12"), 27);
+        CHECKS.due("one digit, no digit of the text before", Checks.read(bench, 0, "#1"), 5);
     }
 
     private static void readWithoutSlot() {
