@@ -540,7 +540,7 @@ public final class LambdaBench {
             return true;
         }
 
-        /** The TERMs of abstractions end here, too: what follows belongs to the one around the (. */
+        /** Abstractions end here, too: what follows belongs to the TERM around the parenthesis. */
         private boolean closes() {
             if (open == 0 || atoms[begin] == 0) {
                 return false;
@@ -848,7 +848,7 @@ public final class LambdaBench {
             }
         }
 
-        /** Writes the part at i, or the S of it when both its parts are to follow; tells how far. */
+        /** Writes the part at i, or only its S when both its parts are to follow; tells how far. */
         private int writePart(int i) {
             int end = ends[i];
             if (now.at(i) == BOUND) {
@@ -876,7 +876,7 @@ public final class LambdaBench {
             return uses[end] > uses[start];
         }
 
-        /** Writes a part without the variable, whose indices no longer reach over its abstraction. */
+        /** Writes a part without the variable; its indices no longer reach over the abstraction. */
         private void writeOutside(int start, int end) {
             for (int i = start; i < end; i++) {
                 int code = now.at(i);
