@@ -32,6 +32,24 @@ final class Checks {
         });
     }
 
+    /** A text that is right, and its term's row. */
+    void right(String text, String row) {
+        LambdaBench bench = new LambdaBench();
+        due("read of " + text, answerOf(() -> read(bench, 3, text)), row.length());
+        due("row of " + text, row(bench, 3), row);
+        due("place of " + text, bench.place(), -1);
+    }
+
+    /** A text that is wrong, and where. */
+    void wrong(String text, int place) {
+        LambdaBench bench = new LambdaBench();
+        read(bench, 3, "k");
+        throwing("read of " + text, ARGUMENT, () -> read(bench, 3, text));
+        due("place of " + text, bench.place(), place);
+        due("slot after " + text, row(bench, 3), "k");
+        due("tape after " + text, bench.feed('a', 1), 1);
+    }
+
     /** Ends the test: with exit code 1 when an answer was not due. */
     void end() {
         System.out.println(wrong == 0 ? "all answers are as due" : wrong + " answers are not as due");
@@ -76,11 +94,27 @@ final class Checks {
         return row.toString();
     }
 
-    /** A new bench with a text's term in slot 0. */
-    static LambdaBench with(String text) {
+    /** A new bench with the texts' terms in slots 0, 1 and so on. */
+    static LambdaBench with(String... texts) {
         LambdaBench bench = new LambdaBench();
-        read(bench, 0, text);
+        for (int slot = 0; slot < texts.length; slot++) {
+            read(bench, slot, texts[slot]);
+        }
         return bench;
+    }
+
+    /** A short text of a term of a size (2 is none), which has no redex, not even when applied. */
+    static String sized(int size) {
+        StringBuilder text = new StringBuilder("a");
+        int left = size - 1;
+        if (left % 2 == 1) {
+            text.append("(\\y.a)");
+            left -= 3;
+        }
+        for (; left > 2; left -= 2 * Math.min(101, left / 2)) {
+            text.append("#").append(Math.min(101, left / 2) - 2);
+        }
+        return text.append(left == 2 ? "a" : "").toString();
     }
 
     /** Puts a row of letters of a size (odd) into a slot; slot 11 is used for it, too. */

@@ -75,112 +75,96 @@ public final class TextTest {
         CHECKS.due("the one before", bench.print(0, 797), (int) 'a');
     }
 
-    private static void right(String text, String row) {
-        LambdaBench bench = new LambdaBench();
-        CHECKS.due("read of " + text, Checks.answerOf(() -> Checks.read(bench, 3, text)), row.length());
-        CHECKS.due("row of " + text, Checks.row(bench, 3), row);
-        CHECKS.due("place of " + text, bench.place(), -1);
-    }
-
     private static void rightTexts() {
-        right("a", "a");
-        right("z", "z");
-        right("S", "S");
-        right("K", "K");
-        right("I", "I");
-        right("a b c", "@@abc");
-        right("abc", "@@abc");
-        right("a(b c)", "@a@bc");
-        right("((a))(((b)))", "@ab");
-        right("a(b c)(d e f)g", "@@@a@bc@@defg");
-        right("\\x.x", "\\0");
-        right("\\x.y", "\\y");
-        right("\\x y.x y", "\\\\@10");
-        right("\\xy.x\\z.y z x", "\\\\@1\\@@102");
-        right("\\x x.x", "\\\\0");
-        right("\\x.(\\x.x)x", "\\@\\00");
-        right("(\\x.x)x", "@\\0x");
-        right("(\\x.\\y.x y)y x", "@@\\\\@10yx");
-        right("a\\x.x b", "@a\\@0b");
-        right("a(\\x.x)b", "@@a\\0b");
-        right("(\\x.(\\y.y)x y)", "\\@@\\00y");
-        right("\\a b c.(\\d.(\\e.e d c b a)d)c", "\\\\\\@\\@\\@@@@0123400");
-        right("#0", "\\\\0");
-        right("#1", "\\\\@10");
-        right("#2", "\\\\@1@10");
-        right("#00", "\\\\0");
-        right("#03", "\\\\@1@1@10");
-        right("#12", "\\\\" + "@1".repeat(12) + "0");
-        right("#99", "\\\\" + "@1".repeat(99) + "0");
-        right("#1#0", "@\\\\@10\\\\0");
-        right("#1a", "@\\\\@10a");
-        right("\\f x.#1 f", "\\\\@\\\\@101");
-        right("S#0K", "@@S\\\\0K");
-        right("  a  b  ", "@ab");
-        right(" ( \\ x  y . ( x ) y ) #1 ", "@\\\\@10\\\\@10");
-        right("(a )b", "@ab");
-        right("\\s.S s", "\\@S0");
-    }
-
-    private static void wrong(String text, int place) {
-        LambdaBench bench = new LambdaBench();
-        Checks.read(bench, 3, "k");
-        CHECKS.throwing("read of " + text, Checks.ARGUMENT, () -> Checks.read(bench, 3, text));
-        CHECKS.due("place of " + text, bench.place(), place);
-        CHECKS.due("slot after " + text, Checks.row(bench, 3), "k");
-        CHECKS.due("tape after " + text, bench.feed('a', 1), 1);
+        CHECKS.right("a", "a");
+        CHECKS.right("z", "z");
+        CHECKS.right("S", "S");
+        CHECKS.right("K", "K");
+        CHECKS.right("I", "I");
+        CHECKS.right("a b c", "@@abc");
+        CHECKS.right("abc", "@@abc");
+        CHECKS.right("a(b c)", "@a@bc");
+        CHECKS.right("((a))(((b)))", "@ab");
+        CHECKS.right("a(b c)(d e f)g", "@@@a@bc@@defg");
+        CHECKS.right("\\x.x", "\\0");
+        CHECKS.right("\\x.y", "\\y");
+        CHECKS.right("\\x y.x y", "\\\\@10");
+        CHECKS.right("\\xy.x\\z.y z x", "\\\\@1\\@@102");
+        CHECKS.right("\\x x.x", "\\\\0");
+        CHECKS.right("\\x.(\\x.x)x", "\\@\\00");
+        CHECKS.right("(\\x.x)x", "@\\0x");
+        CHECKS.right("(\\x.\\y.x y)y x", "@@\\\\@10yx");
+        CHECKS.right("a\\x.x b", "@a\\@0b");
+        CHECKS.right("a(\\x.x)b", "@@a\\0b");
+        CHECKS.right("(\\x.(\\y.y)x y)", "\\@@\\00y");
+        CHECKS.right("\\a b c.(\\d.(\\e.e d c b a)d)c", "\\\\\\@\\@\\@@@@0123400");
+        CHECKS.right("#0", "\\\\0");
+        CHECKS.right("#1", "\\\\@10");
+        CHECKS.right("#2", "\\\\@1@10");
+        CHECKS.right("#00", "\\\\0");
+        CHECKS.right("#03", "\\\\@1@1@10");
+        CHECKS.right("#12", "\\\\" + "@1".repeat(12) + "0");
+        CHECKS.right("#99", "\\\\" + "@1".repeat(99) + "0");
+        CHECKS.right("#1#0", "@\\\\@10\\\\0");
+        CHECKS.right("#1a", "@\\\\@10a");
+        CHECKS.right("\\f x.#1 f", "\\\\@\\\\@101");
+        CHECKS.right("S#0K", "@@S\\\\0K");
+        CHECKS.right("  a  b  ", "@ab");
+        CHECKS.right(" ( \\ x  y . ( x ) y ) #1 ", "@\\\\@10\\\\@10");
+        CHECKS.right("(a )b", "@ab");
+        CHECKS.right("\\s.S s", "\\@S0");
     }
 
     private static void wrongTexts() {
-        wrong("", 0);
-        wrong(" ", 1);
-        wrong("   ", 3);
-        wrong("(", 1);
-        wrong("(a", 2);
-        wrong("(a  ", 4);
-        wrong("(a(b)", 5);
-        wrong(")", 0);
-        wrong("a)", 1);
-        wrong("(a))(", 3);
-        wrong("()", 1);
-        wrong("a( )b", 3);
-        wrong("\\", 1);
-        wrong("\\ ", 2);
-        wrong("\\.a", 1);
-        wrong("\\x", 2);
-        wrong("\\x y", 4);
-        wrong("\\x.", 3);
-        wrong("\\x. ", 4);
-        wrong("\\x.)", 3);
-        wrong("(\\x.)", 4);
-        wrong("(\\x)", 3);
-        wrong("\\x(", 2);
-        wrong("\\x\\y.x", 2);
-        wrong("\\x..x", 3);
-        wrong("\\S.a", 1);
-        wrong("\\xK.a", 2);
-        wrong("\\x#1.a", 2);
-        wrong("\\x1.a", 2);
-        wrong(".", 0);
-        wrong("a.b", 1);
-        wrong("a .b", 2);
-        wrong("#", 1);
-        wrong("# 1", 1);
-        wrong("#a", 1);
-        wrong("##1", 1);
-        wrong("#(1)", 1);
-        wrong("#1 2", 3);
-        wrong("#123", 3);
-        wrong("#12 3", 4);
-        wrong("1", 0);
-        wrong("a1", 1);
-        wrong("a A", 2);
-        wrong("(#)", 2);
-        wrong("\\x.x)", 4);
-        wrong("(\\x.(\\y.y)x", 11);
-        wrong("a)A", 1);
-        wrong("(".repeat(20), 20);
-        wrong("(".repeat(20) + "a" + ")".repeat(19) + " ", 41);
+        CHECKS.wrong("", 0);
+        CHECKS.wrong(" ", 1);
+        CHECKS.wrong("   ", 3);
+        CHECKS.wrong("(", 1);
+        CHECKS.wrong("(a", 2);
+        CHECKS.wrong("(a  ", 4);
+        CHECKS.wrong("(a(b)", 5);
+        CHECKS.wrong(")", 0);
+        CHECKS.wrong("a)", 1);
+        CHECKS.wrong("(a))(", 3);
+        CHECKS.wrong("()", 1);
+        CHECKS.wrong("a( )b", 3);
+        CHECKS.wrong("\\", 1);
+        CHECKS.wrong("\\ ", 2);
+        CHECKS.wrong("\\.a", 1);
+        CHECKS.wrong("\\x", 2);
+        CHECKS.wrong("\\x y", 4);
+        CHECKS.wrong("\\x.", 3);
+        CHECKS.wrong("\\x. ", 4);
+        CHECKS.wrong("\\x.)", 3);
+        CHECKS.wrong("(\\x.)", 4);
+        CHECKS.wrong("(\\x)", 3);
+        CHECKS.wrong("\\x(", 2);
+        CHECKS.wrong("\\x\\y.x", 2);
+        CHECKS.wrong("\\x..x", 3);
+        CHECKS.wrong("\\S.a", 1);
+        CHECKS.wrong("\\xK.a", 2);
+        CHECKS.wrong("\\x#1.a", 2);
+        CHECKS.wrong("\\x1.a", 2);
+        CHECKS.wrong(".", 0);
+        CHECKS.wrong("a.b", 1);
+        CHECKS.wrong("a .b", 2);
+        CHECKS.wrong("#", 1);
+        CHECKS.wrong("# 1", 1);
+        CHECKS.wrong("#a", 1);
+        CHECKS.wrong("##1", 1);
+        CHECKS.wrong("#(1)", 1);
+        CHECKS.wrong("#1 2", 3);
+        CHECKS.wrong("#123", 3);
+        CHECKS.wrong("#12 3", 4);
+        CHECKS.wrong("1", 0);
+        CHECKS.wrong("a1", 1);
+        CHECKS.wrong("a A", 2);
+        CHECKS.wrong("(#)", 2);
+        CHECKS.wrong("\\x.x)", 4);
+        CHECKS.wrong("(\\x.(\\y.y)x", 11);
+        CHECKS.wrong("a)A", 1);
+        CHECKS.wrong("(".repeat(20), 20);
+        CHECKS.wrong("(".repeat(20) + "a" + ")".repeat(19) + " ", 41);
     }
 
     private static void otherBytesAreWrong() {
@@ -191,9 +175,9 @@ public final class TextTest {
                 CHECKS.due("byte " + code, Checks.row(Checks.with(text), 0),
                     code == ' ' ? "a" : "@a" + (char) code);
             } else if (code == '(' || code == '\\' || code == '#') {
-                wrong(text, 2);
+                CHECKS.wrong(text, 2);
             } else {
-                wrong(text, 1);
+                CHECKS.wrong(text, 1);
             }
         }
     }
@@ -201,18 +185,18 @@ public final class TextTest {
     private static void parenthesesWithinOneAnother() {
         String open = "(".repeat(20);
         String close = ")".repeat(20);
-        right(open + "a" + close, "a");
-        right(open + "a" + close + open + "b" + close, "@ab");
-        right(open + "\\x.x" + close, "\\0");
-        right("(\\a.".repeat(20) + "a" + close, "\\".repeat(20) + "0");
-        right("(\\a.".repeat(20) + "a" + ")a".repeat(20),
+        CHECKS.right(open + "a" + close, "a");
+        CHECKS.right(open + "a" + close + open + "b" + close, "@ab");
+        CHECKS.right(open + "\\x.x" + close, "\\0");
+        CHECKS.right("(\\a.".repeat(20) + "a" + close, "\\".repeat(20) + "0");
+        CHECKS.right("(\\a.".repeat(20) + "a" + ")a".repeat(20),
             "@" + "\\@".repeat(19) + "\\0" + "0".repeat(19) + "a");
-        wrong("(" + open + "a" + close + ")", 20);
-        wrong("(" + open, 20);
-        wrong("a " + open + "a)a((a", 26);
-        wrong("(\\x.".repeat(20) + "(", 80);
-        right("\\x.".repeat(132) + "x", "\\".repeat(132) + "0");
-        right("\\" + "x".repeat(397) + ".x", "\\".repeat(397) + "0");
+        CHECKS.wrong("(" + open + "a" + close + ")", 20);
+        CHECKS.wrong("(" + open, 20);
+        CHECKS.wrong("a " + open + "a)a((a", 26);
+        CHECKS.wrong("(\\x.".repeat(20) + "(", 80);
+        CHECKS.right("\\x.".repeat(132) + "x", "\\".repeat(132) + "0");
+        CHECKS.right("\\" + "x".repeat(397) + ".x", "\\".repeat(397) + "0");
     }
 
     private static void greatTexts() {
