@@ -26,10 +26,12 @@ public final class StepEdgesTest {
         howWithoutFuel();
         howOfTooGreat();
         howAfterRefusedCalls();
+        howStaysInOtherCalls();
         abstractedOfNone();
         abstractedWithoutSlot();
         abstractedUpTo2000();
         abstractedAtNoTimeTooGreat();
+        abstractedItsOwnVariable();
         abstractedLastOneFirst();
         abstractedKeepsWhatHasNoAbstraction();
         numeralTakes1To400Steps();
@@ -252,6 +254,11 @@ public final class StepEdgesTest {
             bench.reduce(4, 1);
             CHECKS.due("A's own variable below " + deep, bench.same(4, 5), true);
         }
+        // The least index that reaches out of A, and the greatest one that does not.
+        step("\\a.(\\x y.x)a", "\\\\1");
+        step("\\a.(\\x y.x)(\\z.z a)", "\\\\\\@02");
+        step("\\a.(\\x.a x)b", "\\@0b");
+        step("(\\x y.y x)b", "\\@0b");
     }
 
     /** '0 none was' */
@@ -337,6 +344,30 @@ public final class StepEdgesTest {
             CHECKS.throwing("no slot, numeral", Checks.ARGUMENT, () -> bench.numeral(-1, 1));
             CHECKS.throwing("too great, numeral", Checks.STATE, () -> bench.numeral(1, 1));
             CHECKS.due("how stays", bench.how(), due);
+        }
+    }
+
+    /** 'Of the latest reduce or numeral': other calls are neither. */
+    private static void howStaysInOtherCalls() {
+        String[] texts = {"a", "I(I a)", "(\\x.x x)" + part(1000)};
+        for (int due = 1; due <= 3; due++) {
+            LambdaBench bench = Checks.with(texts[due - 1], "\\x.x a");
+            bench.reduce(0, 1);
+            Checks.read(bench, 2, "I a");
+            Checks.answerOf(() -> Checks.read(bench, 2, "I a)"));
+            bench.place();
+            bench.size(2);
+            bench.print(2, 0);
+            bench.copy(2, 3);
+            bench.apply(1, 2, 3);
+            bench.bind(3, 'a');
+            bench.redexes(3);
+            bench.abstracted(1);
+            bench.same(1, 2);
+            bench.has(1, 'a');
+            CHECKS.due("how stays in other calls", bench.how(), due);
+            bench.numeral(2, 1);
+            CHECKS.due("how of the numeral", bench.how(), 1);
         }
     }
 
@@ -444,6 +475,28 @@ public final class StepEdgesTest {
         bench.apply(1, 0, 0);
         CHECKS.due("size before", bench.apply(0, 2, 0), 2000);
         return bench;
+    }
+
+    private static void becomes(String text, String row) {
+        LambdaBench bench = Checks.with(text);
+        CHECKS.due("abstracted of " + text, bench.abstracted(0), row.length());
+        CHECKS.due("row of abstracted " + text, Checks.row(bench, 0), row);
+    }
+
+    /** 'a B that is its variable'; 'one in which it is not'; 'F, in which x is not, to x' */
+    private static void abstractedItsOwnVariable() {
+        becomes("\\x.x", "I");
+        becomes("\\x y.x", "K");
+        becomes("\\x y.y", "@KI");
+        becomes("\\x y z.x", "@@S@KKK");
+        becomes("\\x y z.y", "@KK");
+        becomes("\\x y.a x", "@@S@KKa");
+        becomes("\\x.a x", "a");
+        becomes("\\x.x x", "@@SII");
+        becomes("\\x.x a", "@@SI@Ka");
+        becomes("\\x y.x y", "I");
+        becomes("\\x y.y x", "@@S@K@SIK");
+        becomes("\\x y z.x y z", "I");
     }
 
     /** 'one by one, the last one in the order of PRINTING first' */
