@@ -6,7 +6,10 @@ import java.util.Arrays;
 import java.util.Set;
 import java.util.TreeSet;
 
-/** The public face: the document's members with what they declare to throw, and no other. */
+/**
+ * The public face: the document's members with what they declare to throw, and no other; the
+ * classes inside are hidden and static, and no private method bears a public one's name.
+ */
 public final class FaceTest {
     private static final String[] FACE = {
         "int feed(long,int) IllegalArgumentException,IllegalStateException",
@@ -44,7 +47,31 @@ public final class FaceTest {
         }
         Constructor<?>[] constructors = LambdaBench.class.getDeclaredConstructors();
         checks.due("constructors", Arrays.toString(constructors), "[public LambdaBench()]");
+
+        checkPrivateNames(checks, LambdaBench.class);
+        for (Class<?> inside : LambdaBench.class.getDeclaredClasses()) {
+            checks.due("hidden " + inside, isHiddenAndStatic(inside.getModifiers()), true);
+            checkPrivateNames(checks, inside);
+        }
         checks.end();
+    }
+
+    private static boolean isHiddenAndStatic(int modifiers) {
+        boolean shown = Modifier.isPublic(modifiers) || Modifier.isProtected(modifiers);
+        return !shown && Modifier.isStatic(modifiers);
+    }
+
+    /** The language's first rule: no private method bears the name of a public one. */
+    private static void checkPrivateNames(Checks checks, Class<?> type) {
+        for (Method method : type.getDeclaredMethods()) {
+            if (Modifier.isPrivate(method.getModifiers())) {
+                checks.due("own name of " + method, isOfFace(method.getName()), false);
+            }
+        }
+    }
+
+    private static boolean isOfFace(String name) {
+        return Arrays.stream(FACE).anyMatch(row -> row.contains(" " + name + "("));
     }
 
     private static String describe(Method method) {
